@@ -875,6 +875,8 @@ public final class PoliteHall {
         private final int[] sets = new int[SETS];
         private final int[] places = new int[MACHINES + 2];
         private final int[] counted = new int[SETS];
+        private final int[] prices = new int[SETS];
+        private final long[] weights = new long[SETS];
         private int size;
 
         Fitting(Hall hall) {
@@ -948,32 +950,34 @@ public final class PoliteHall {
         /** The first set, in order, of those of at most so many that do not let the fewest sayings. */
         int leastNotLet() {
             int best = 0;
-            for (int set = 1; set <= hall.everyone(); set++) {
-                int few = Integer.bitCount(set);
-                boolean fewer = tally.notLet[set] < tally.notLet[best];
-                boolean like = tally.notLet[set] == tally.notLet[best] && few < Integer.bitCount(best);
-                if (few <= hall.most && (fewer || like)) {
-                    best = set;
+            int end = 1 << hall.machines;
+            for (int set = 1; set < end; set++) {
+                int more = tally.notLet[set] - tally.notLet[best];
+                if (more <= 0 && Integer.bitCount(set) <= hall.most) {
+                    boolean ahead = more < 0 || Integer.bitCount(set) < Integer.bitCount(best);
+                    best = ahead ? set : best;
                 }
             }
             return best;
         }
 
-        private long weightOf(int set) {
-            long product = 1;
+        /** Doubles the sets machine by machine: each with it, and without it. */
+        private void weigh() {
+            weights[0] = 1;
             for (int i = 0; i < hall.machines; i++) {
-                product *= (set >> i & 1) != 0 ? hall.chances[i] : 10 - hall.chances[i];
+                int bit = 1 << i;
+                for (int set = 0; set < bit; set++) {
+                    weights[bit | set] = weights[set] * hall.chances[i];
+                    weights[set] *= 10 - hall.chances[i];
+                }
             }
-            return product;
         }
 
         int weightiest() {
-            int best = 0;
-            long greatest = 0;
-            for (int i = 0; i < size; i++) {
-                long weight = weightOf(sets[i]);
-                if (weight > greatest) {
-                    greatest = weight;
+            weigh();
+            int best = sets[0];
+            for (int i = 1; i < size; i++) {
+                if (weights[sets[i]] > weights[best]) {
                     best = sets[i];
                 }
             }
@@ -981,38 +985,44 @@ public final class PoliteHall {
         }
 
         long weightOfThoseWith(int some) {
+            weigh();
             long sum = 0;
             for (int i = 0; i < size; i++) {
                 if ((sets[i] & some) == some) {
-                    sum += weightOf(sets[i]);
+                    sum += weights[sets[i]];
                 }
             }
             return sum;
         }
 
-        private int priceOf(int set) {
-            int sum = 0;
+        private void priceEach() {
+            prices[0] = 0;
             for (int i = 0; i < hall.machines; i++) {
-                if ((set >> i & 1) != 0) {
-                    sum += hall.prices[i];
+                int bit = 1 << i;
+                for (int set = 0; set < bit; set++) {
+                    prices[bit | set] = prices[set] + hall.prices[i];
                 }
             }
-            return sum;
         }
 
         private void markEach() {
-            for (int set = 0; set <= hall.everyone(); set++) {
-                counted[set] = holds(set) ? 1 : 0;
+            int end = 1 << hall.machines;
+            for (int set = 0; set < end; set++) {
+                counted[set] = 0;
+            }
+            for (int i = 0; i < size; i++) {
+                counted[sets[i]] = 1;
             }
         }
 
-        /** Of each set, how many fitting ones lie in it. */
+        /** Of each set, how many fitting ones lie in it: machine by machine, those without it lie in those with it. */
         private void countThoseIn() {
             markEach();
-            for (int i = 0; i < hall.machines; i++) {
-                for (int set = 0; set <= hall.everyone(); set++) {
-                    if ((set >> i & 1) != 0) {
-                        counted[set] += counted[set ^ 1 << i];
+            int end = 1 << hall.machines;
+            for (int bit = 1; bit < end; bit *= 2) {
+                for (int block = 0; block < end; block += 2 * bit) {
+                    for (int set = block; set < block + bit; set++) {
+                        counted[set + bit] += counted[set];
                     }
                 }
             }
@@ -1021,10 +1031,11 @@ public final class PoliteHall {
         /** Of each set, how many fitting ones have all of it. */
         void countThoseWith() {
             markEach();
-            for (int i = 0; i < hall.machines; i++) {
-                for (int set = 0; set <= hall.everyone(); set++) {
-                    if ((set >> i & 1) == 0) {
-                        counted[set] += counted[set | 1 << i];
+            int end = 1 << hall.machines;
+            for (int bit = 1; bit < end; bit *= 2) {
+                for (int block = 0; block < end; block += 2 * bit) {
+                    for (int set = block; set < block + bit; set++) {
+                        counted[set] += counted[set + bit];
                     }
                 }
             }
@@ -1032,16 +1043,13 @@ public final class PoliteHall {
 
         int bestToMend(int coins) {
             countThoseIn();
+            priceEach();
             int best = 0;
-            int bestPrice = 0;
-            for (int set = 1; set <= hall.everyone(); set++) {
-                if (counted[set] >= counted[best]) {
-                    int price = priceOf(set);
-                    boolean better = counted[set] > counted[best] || price < bestPrice;
-                    if (price <= coins && better) {
-                        best = set;
-                        bestPrice = price;
-                    }
+            int end = 1 << hall.machines;
+            for (int set = 1; set < end; set++) {
+                boolean cheaper = counted[set] == counted[best] && prices[set] < prices[best];
+                if (prices[set] <= coins && (counted[set] > counted[best] || cheaper)) {
+                    best = set;
                 }
             }
             return best;
@@ -1074,7 +1082,8 @@ public final class PoliteHall {
         }
 
         private void reachOut() {
-            for (int set = 1; set <= hall.everyone(); set++) {
+            int end = 1 << hall.machines;
+            for (int set = 1; set < end; set++) {
                 reached[set] = reached[set & set - 1] | canTry[Integer.numberOfTrailingZeros(set)];
             }
         }
@@ -1093,7 +1102,8 @@ public final class PoliteHall {
             greater = MACHINES + 1;
             union = 0;
             apart = 0;
-            for (int set = 1; set <= hall.everyone(); set++) {
+            int end = 1 << hall.machines;
+            for (int set = 1; set < end; set++) {
                 int apartThere = apartIn(set);
                 if (apartThere != 0 && greaterOf(set, apartThere) < greater) {
                     greater = greaterOf(set, apartThere);
@@ -1151,7 +1161,8 @@ public final class PoliteHall {
                 return enough;
             }
             int least = MACHINES + 1;
-            for (int set = 1; set <= hall.everyone() && least > enough; set++) {
+            int end = 1 << hall.machines;
+            for (int set = 1; set < end && least > enough; set++) {
                 least = Math.min(least, changedGreater(set, apartIn(set), from, to));
             }
             return least;
@@ -1351,7 +1362,8 @@ public final class PoliteHall {
             for (int i = 0; i < end; i++) {
                 sets[i] = 0;
             }
-            for (int set = 0; set <= hall.everyone(); set++) {
+            int last = hall.everyone();
+            for (int set = 0; set <= last; set++) {
                 if (tally.notLet[set] == 0 && Integer.bitCount(set) <= hall.most) {
                     sets[stancesOf(set)]++;
                 }

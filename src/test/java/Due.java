@@ -1,0 +1,66 @@
+/** Compares answers with those that are due, and ends a test with exit code 1 if one was wrong. */
+final class Due {
+    static final int BEYOND = -1000001;
+    static final int NONE = -1000002;
+    static final int STATE = -1000003;
+    static final int FULL = -1000004;
+    static final int KIND = -1000005;
+    static final int PARTED = -1000006;
+
+    private int asked;
+    private int wrong;
+
+    void is(String call, long got, long due) {
+        asked++;
+        if (got != due) {
+            wrong++;
+            System.out.println(call + " answered " + got + ", due is " + due);
+        }
+    }
+
+    void holds(String what, boolean so) {
+        is(what, so ? 1 : 0, 1);
+    }
+
+    void end() {
+        System.out.println(wrong == 0 ? "all " + asked + " are as due" : wrong + " of " + asked + " are not as due");
+        if (wrong != 0) {
+            System.exit(1);
+        }
+    }
+
+    /** A hall of n machines of a kind, price 10, chance 5. */
+    static PoliteHall hallOf(int n, int kind) {
+        PoliteHall hall = new PoliteHall();
+        for (int i = 0; i < n; i++) {
+            hall.machine(kind, 10, 5);
+        }
+        return hall;
+    }
+
+    /** Ties of cost 1 from each to all others. */
+    static PoliteHall tieAll(PoliteHall hall) {
+        int n = hall.count(0);
+        for (int from = 0; from < n; from++) {
+            for (int to = 0; to < n; to++) {
+                if (from != to) {
+                    hall.tie(from, to, 1);
+                }
+            }
+        }
+        return hall;
+    }
+
+    static int feed(PoliteHall hall, String bytes) {
+        int answer = hall.count(4);
+        for (int i = 0; i < bytes.length(); i++) {
+            answer = hall.feed(bytes.charAt(i), 1);
+        }
+        return answer;
+    }
+
+    static int text(PoliteHall hall, String bytes) {
+        feed(hall, bytes);
+        return hall.text();
+    }
+}
