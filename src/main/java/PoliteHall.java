@@ -855,14 +855,15 @@ public final class PoliteHall {
 
         void fill(int machines) {
             notLet[0] = always;
-            for (int top = 0; top < machines; top++) {
-                int bit = 1 << top;
-                notLet[bit] = always + single[top];
-                for (int set = 1; set < bit; set++) {
-                    int rest = set & set - 1;
-                    int lowest = Integer.numberOfTrailingZeros(set);
-                    int addedToRest = notLet[bit | rest] - notLet[rest];
-                    notLet[bit | set] = notLet[set] + addedToRest + both[top * MACHINES + lowest];
+            for (int higher = 0; higher < machines; higher++) {
+                int high = 1 << higher;
+                notLet[high] = always + single[higher];
+                for (int lower = 0; lower < higher; lower++) {
+                    int low = 1 << lower;
+                    int forBoth = both[higher * MACHINES + lower];
+                    for (int rest = 0; rest < low; rest++) {
+                        notLet[high + low + rest] = notLet[high + rest] + notLet[low + rest] - notLet[rest] + forBoth;
+                    }
                 }
             }
         }
@@ -967,7 +968,7 @@ public final class PoliteHall {
             for (int i = 0; i < hall.machines; i++) {
                 int bit = 1 << i;
                 for (int set = 0; set < bit; set++) {
-                    weights[bit | set] = weights[set] * hall.chances[i];
+                    weights[bit + set] = weights[set] * hall.chances[i];
                     weights[set] *= 10 - hall.chances[i];
                 }
             }
@@ -1000,7 +1001,7 @@ public final class PoliteHall {
             for (int i = 0; i < hall.machines; i++) {
                 int bit = 1 << i;
                 for (int set = 0; set < bit; set++) {
-                    prices[bit | set] = prices[set] + hall.prices[i];
+                    prices[bit + set] = prices[set] + hall.prices[i];
                 }
             }
         }
@@ -1082,9 +1083,11 @@ public final class PoliteHall {
         }
 
         private void reachOut() {
-            int end = 1 << hall.machines;
-            for (int set = 1; set < end; set++) {
-                reached[set] = reached[set & set - 1] | canTry[Integer.numberOfTrailingZeros(set)];
+            for (int i = 0; i < hall.machines; i++) {
+                int bit = 1 << i;
+                for (int set = 0; set < bit; set++) {
+                    reached[bit + set] = reached[set] | canTry[i];
+                }
             }
         }
 

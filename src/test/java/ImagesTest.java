@@ -4,6 +4,8 @@ public final class ImagesTest {
 
     public static void main(String[] args) {
         image();
+        likeNumbersOfOthers();
+        othersInTheirPlaces();
         imageStays();
         whatAnImageHasNot();
         tell();
@@ -45,6 +47,69 @@ public final class ImagesTest {
         DUE.is("most 3", x.most(5), 3);
         DUE.is("waiting", x.count(5), 1);
         DUE.is("its number", x.check(), 0);
+    }
+
+    /** As many of all as there were, but others: an image must have what they are, not how many. */
+    private static void likeNumbersOfOthers() {
+        PoliteHall x = new PoliteHall();
+        x.machine(1, 11, 1);
+        x.machine(0, 22, 2);
+        Due.tieAll(x);
+        x.say(0, 1, false);
+        x.tell(2);
+        Due.feed(x, "most 3");
+        x.image();
+        x.unsay(0);
+        x.restore();
+        DUE.is("many at once", x.many(), 1);
+        for (int i = 0; i < 3; i++) {
+            x.say(1, 0, true);
+            x.tell(-7);
+        }
+        x.check();
+        x.tell(-9);
+        x.text();
+        Due.feed(x, "xxxxxx");
+        DUE.is("restore", x.restore(), 2);
+        DUE.is("who said it", x.sayingIs(0, 0), 0);
+        DUE.is("of whom", x.sayingIs(0, 1), 1);
+        DUE.is("prices", x.machineIs(0, 1) * 100 + x.machineIs(1, 1), 1122);
+        DUE.is("chances", x.machineIs(0, 2) * 100 + x.machineIs(1, 2), 102);
+        DUE.is("kinds", x.machineIs(0, 0) * 100 + x.machineIs(1, 0), 100);
+        DUE.is("the number that waits", x.check(), 0);
+        DUE.is("the text", x.text(), 1);
+        DUE.is("most", x.most(12), 3);
+    }
+
+    /** An image of few, then other ones in their places: all rows come back. */
+    private static void othersInTheirPlaces() {
+        PoliteHall x = new PoliteHall();
+        x.image();
+        x.machine(1, 11, 1);
+        x.machine(5, 22, 2);
+        x.machine(0, 33, 3);
+        Due.tieAll(x);
+        x.say(0, 1, false);
+        x.tell(2);
+        x.feed('a', 1);
+        x.image();
+        Due.text(x, "most 0");
+        PoliteHall y = new PoliteHall();
+        x.restore();
+        x.text();
+        DUE.is("sayings of three", x.machineIs(0, 4) + x.machineIs(1, 5), 2);
+        DUE.is("an object has its own image", y.restore(), Due.NONE);
+        x.machine(0, 1, 1);
+        x.tie(3, 2, 1);
+        x.say(3, 2, false);
+        x.say(2, 0, true);
+        x.restore();
+        x.machine(3, 44, 4);
+        x.tie(3, 1, 1);
+        DUE.is("the next saying", x.say(3, 1, true), 1);
+        DUE.is("its sayer", x.sayingIs(1, 0), 3);
+        DUE.is("its subject", x.sayingIs(1, 1), 1);
+        DUE.is("whom 3 can try", x.machineIs(3, 3), 2);
     }
 
     private static void imageStays() {

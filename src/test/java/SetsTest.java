@@ -89,6 +89,9 @@ public final class SetsTest {
         x.say(0, 1, false);
         DUE.is("sure(0)", x.sure(0), 2);
         DUE.is("sure(1)", x.sure(1), 1);
+        x.most(1);
+        DUE.is("sure(0) of one set", x.sure(0), 2);
+        DUE.is("sure(1) of one set", x.sure(1), 5);
         DUE.is("sure(2)", x.sure(2), Due.BEYOND);
         DUE.is("sure(-1)", x.sure(-1), Due.BEYOND);
         x.most(0);
@@ -121,9 +124,17 @@ public final class SetsTest {
         PoliteHall y = Due.tieAll(Due.hallOf(2, 1));
         y.say(0, 1, false);
         y.say(1, 0, false);
-        // No set lets both; {0} and {1} leave one each, as does neither more: the first in order with one.
+        // No set lets both: {0} and {1} leave one each.
         DUE.is("blame(0), polite", y.blame(0), 1);
-        DUE.is("blame(1), polite", y.blame(1), 1);
+        DUE.is("blame(1), polite: the least bits", y.blame(1), 1);
+        PoliteHall z = Due.tieAll(Due.hallOf(3, 0));
+        z.say(0, 2, false);
+        z.say(1, 2, false);
+        z.say(2, 0, false);
+        z.say(2, 1, false);
+        // {0, 1} and {2} let all, {0, 1} has the lesser bits.
+        DUE.is("blame(0), two sides", z.blame(0), 0);
+        DUE.is("blame(1), two sides: the fewest first", z.blame(1), 4);
     }
 
     private static void leads() {
@@ -148,6 +159,12 @@ public final class SetsTest {
         DUE.is("leads(3) round about; broken leads nowhere", x.leads(3), 0b0011111);
         x.unsay(5);
         DUE.is("leads(0), unsaid", x.leads(0), 1);
+        // The last one was said first: each saying leads on from the one behind it.
+        PoliteHall y = Due.tieAll(Due.hallOf(12, 0));
+        for (int i = 10; i >= 0; i--) {
+            y.say(i, i + 1, true);
+        }
+        DUE.is("leads(0) to the end", y.leads(0), 4095);
         DUE.is("leads(7)", x.leads(7), Due.BEYOND);
         DUE.is("leads(-1)", x.leads(-1), Due.BEYOND);
     }

@@ -4,6 +4,7 @@ public final class SheetsTest {
 
     public static void main(String[] args) {
         sheet();
+        allZero();
         put();
         bitsAndSigns();
         move();
@@ -33,6 +34,26 @@ public final class SheetsTest {
         DUE.is("missing", x.says(0), Due.NONE);
         DUE.is("sheet 3", x.sheet(3, 32, 1), 1);
         DUE.is("sheet 3 put", x.put(3, 0, 1), 1);
+    }
+
+    private static void allZero() {
+        PoliteHall x = Due.tieAll(Due.hallOf(2, 0));
+        x.sheet(0, 8, 4);
+        x.put(0, 0, 1);
+        x.put(0, 1, 1);
+        x.put(0, 2, 1);
+        x.put(0, 3, 1);
+        x.sheet(0, 8, 4);
+        DUE.is("laid anew, 0 of itself", x.says(0), 0);
+        x.put(0, 0, 1);
+        DUE.is("one of them put", x.says(0), 1);
+        DUE.is("the other one 0: broken", x.sayingIs(0, 2), 0);
+        x.put(0, 2, 1);
+        x.sheet(0, 0, 0);
+        x.sheet(0, 8, 4);
+        x.put(0, 0, 12);
+        DUE.is("missing in between", x.says(0), 1);
+        DUE.is("its sayer", x.sayingIs(1, 0), 1);
     }
 
     private static void put() {

@@ -82,6 +82,15 @@ public final class TextsTest {
         fault(x, "make any 1 1 1", 13);
         fault(x, "make any 1 1;", 13);
         fault(x, "make any 1 1; ", 14);
+        fault(x, "cake any 1 1", 0);
+        fault(x, "most 1 mostz", 7);
+        fault(x, "makez any 1 1", 0);
+        fault(x, "mostz 1", 0);
+        fault(x, "make anya 1 1", 5);
+        fault(x, "most 1`", 6);
+        fault(x, "most{1", 4);
+        fault(x, "most 1/", 6);
+        fault(x, "most 1:", 6);
         fault(x, "make any 1 1;;", 13);
         fault(x, "make any 1 1 make any 1 1", 13);
         fault(x, "make any 1,1", 10);

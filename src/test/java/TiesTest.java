@@ -6,6 +6,7 @@ public final class TiesTest {
 
     public static void main(String[] args) {
         fewMachines();
+        afresh();
         complete();
         kindsAndSayingsDoNotMatter();
         rings();
@@ -40,6 +41,25 @@ public final class TiesTest {
         DUE.is("pair(0), apart", x.pair(0), 1);
         DUE.is("pair(1), apart", x.pair(1), 2);
         DUE.is("more, all there", x.more(), Due.NONE);
+    }
+
+    /** Each answer is of the ties as they are, whatever was asked ahead. */
+    private static void afresh() {
+        PoliteHall x = Due.tieAll(Due.hallOf(3, 0));
+        DUE.is("pair(0) at once", x.pair(0), 3);
+        DUE.is("pair(1) at once", x.pair(1), 4);
+        x.tie(0, 1, 0);
+        DUE.is("more at once", x.more(), 1);
+        x.tie(0, 1, 1);
+        x.without(0, 1);
+        x.tie(2, 1, 0);
+        DUE.is("pair(0) behind without", x.pair(0), 3);
+        DUE.is("pair(1) behind without", x.pair(1), 1);
+        DUE.is("known behind it", x.known(), 1);
+        x.tie(0, 1, 0);
+        DUE.is("more behind it", x.more(), 1);
+        DUE.is("pair(0) of one that nobody tries", x.pair(0), 2);
+        DUE.is("pair(1) of one that nobody tries", x.pair(1), 0);
     }
 
     private static void complete() {

@@ -44,6 +44,11 @@ public final class TrialsTest {
         y.machine(0, 1, 1);
         y.tie(0, 1, 1);
         DUE.is("next(1) of a mute one", y.next(1), 2);
+        // By 0 the sets of 0 broken fit both ways: with 0 whole for sure, what it says of 1 parts them.
+        PoliteHall w = judged(1);
+        w.tie(0, 1, 1);
+        DUE.is("next(0) of a judge", w.next(0), 100);
+        DUE.is("next(1) of a judge", w.next(1), 1);
         PoliteHall z = Due.hallOf(3, 0);
         z.tie(2, 0, 4);
         z.tie(2, 1, 4);
@@ -83,6 +88,22 @@ public final class TrialsTest {
         DUE.is("one trial tells", y.rounds(), 1);
         y.say(1, 0, true);
         DUE.is("none is needed", y.rounds(), 0);
+        // A slack judge, whole since a polite one said nothing else could be: whole says nothing, broken tells.
+        PoliteHall z = judged(1);
+        z.machine(3, 1, 1);
+        z.tie(1, 3, 1);
+        z.say(1, 3, true);
+        z.tie(3, 0, 1);
+        z.tie(1, 0, 0);
+        DUE.is("sets left", z.many(), 2);
+        DUE.is("whole leaves both", z.rounds(), Due.NONE);
+        z.tie(1, 0, 1);
+        DUE.is("the polite one tells", z.rounds(), 1);
+        // The first of two trials leaves one set or two, by what was said.
+        PoliteHall w = judged(2);
+        w.most(2);
+        DUE.is("three sets", w.many(), 3);
+        DUE.is("two trials", w.rounds(), 2);
     }
 
     private static void roundsRefused() {
