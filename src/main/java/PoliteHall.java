@@ -1446,7 +1446,6 @@ public final class PoliteHall {
         private int place;
         private int start;
         private int type;
-        private int value;
         private int fault;
 
         Reader(Hall hall) {
@@ -1463,7 +1462,7 @@ public final class PoliteHall {
                 readItem();
                 items++;
                 advance();
-                goesOn = isRight() && type == OTHER && value == ';';
+                goesOn = isRight() && type == OTHER && hall.tape[start] == ';';
                 if (!goesOn && type != END) {
                     fail();
                 }
@@ -1570,10 +1569,22 @@ public final class PoliteHall {
 
         private int readNumber(int least, int greatest) {
             advance();
-            if (type != NUMBER || outside(value, least, greatest)) {
+            int v = takenNumber();
+            if (outside(v, least, greatest)) {
                 fail();
             }
-            return value;
+            return v;
+        }
+
+        private int takenNumber() {
+            if (type != NUMBER || place - start > 3) {
+                return NO_NUMBER;
+            }
+            int v = 0;
+            for (int i = start; i < place; i++) {
+                v = v * 10 + hall.tape[i] - '0';
+            }
+            return v;
         }
 
         private boolean isWord(String word) {
@@ -1597,44 +1608,23 @@ public final class PoliteHall {
                 place++;
             }
             start = place;
-            value = NO_NUMBER;
             if (place >= hall.taped) {
                 type = END;
-            } else if (isLetterAt(place)) {
-                takeWord();
-            } else if (isDigitAt(place)) {
-                takeNumber();
-            } else {
-                type = OTHER;
-                value = hall.tape[place];
+                return;
+            }
+            type = typeAt(place);
+            place++;
+            while (type != OTHER && place < hall.taped && typeAt(place) == type) {
                 place++;
             }
         }
 
-        private void takeWord() {
-            type = WORD;
-            while (place < hall.taped && isLetterAt(place)) {
-                place++;
+        private int typeAt(int i) {
+            int b = hall.tape[i];
+            if (b >= 'a' && b <= 'z') {
+                return WORD;
             }
-        }
-
-        private void takeNumber() {
-            type = NUMBER;
-            int read = 0;
-            while (place < hall.taped && isDigitAt(place)) {
-                // Past three digits the number is none, so that it need not be exact.
-                read = Math.min(1000, read * 10 + hall.tape[place] - '0');
-                place++;
-            }
-            value = place - start <= 3 ? read : NO_NUMBER;
-        }
-
-        private boolean isLetterAt(int i) {
-            return hall.tape[i] >= 'a' && hall.tape[i] <= 'z';
-        }
-
-        private boolean isDigitAt(int i) {
-            return hall.tape[i] >= '0' && hall.tape[i] <= '9';
+            return b >= '0' && b <= '9' ? NUMBER : OTHER;
         }
     }
 
