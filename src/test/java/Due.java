@@ -9,12 +9,22 @@ final class Due {
 
     private int asked;
     private int wrong;
+    private String sentence = "";
+
+    /** The sentence of the document by which the answers behind it are due. */
+    void sentence(String words) {
+        sentence = "[" + words + "] ";
+    }
 
     void is(String call, long got, long due) {
+        same(call, Long.toString(got), Long.toString(due));
+    }
+
+    void same(String call, String got, String due) {
         asked++;
-        if (got != due) {
+        if (!got.equals(due)) {
             wrong++;
-            System.out.println(call + " answered " + got + ", due is " + due);
+            System.out.println(sentence + call + " answered " + got + ", due is " + due);
         }
     }
 
@@ -51,12 +61,23 @@ final class Due {
         return hall;
     }
 
+    /** Bytes come eight by eight, the lowest first. */
     static int feed(PoliteHall hall, String bytes) {
         int answer = hall.count(4);
-        for (int i = 0; i < bytes.length(); i++) {
-            answer = hall.feed(bytes.charAt(i), 1);
+        for (int i = 0; i < bytes.length(); i += 8) {
+            int n = Math.min(8, bytes.length() - i);
+            long word = 0;
+            for (int k = 0; k < n; k++) {
+                word |= (long) bytes.charAt(i + k) << 8 * k;
+            }
+            answer = hall.feed(word, n);
         }
         return answer;
+    }
+
+    /** So many bytes in all: blanks behind those that are told. */
+    static int feed(PoliteHall hall, String bytes, int size) {
+        return feed(hall, bytes + " ".repeat(size - bytes.length()));
     }
 
     static int text(PoliteHall hall, String bytes) {

@@ -450,23 +450,30 @@ final class PlainHall {
 
     // Ties: all twos of sets, one after the other.
 
-    boolean asOne(int a, int b) {
-        for (int from = 0; from < n(); from++) {
-            for (int to = 0; to < n(); to++) {
-                if (s.cost[from][to] > 0 && !in(a | b, from) && in(a ^ b, to)) {
-                    return false;
-                }
+    /** Of each set, whom its members can try, all together. */
+    int[] triedBy() {
+        int[] tried = new int[1 << n()];
+        List<int[]> ties = ties();
+        for (int set = 0; set < tried.length; set++) {
+            for (int[] t : ties) {
+                tried[set] |= in(set, t[0]) ? 1 << t[1] : 0;
             }
         }
-        return true;
+        return tried;
+    }
+
+    static boolean asOne(int[] triedBy, int a, int b) {
+        int neither = triedBy.length - 1 & ~(a | b);
+        return (triedBy[neither] & (a ^ b)) == 0;
     }
 
     int fewestOfGreater() {
+        int[] triedBy = triedBy();
         int fewest = 13;
         for (int a = 0; a < 1 << n(); a++) {
             for (int b = a + 1; b < 1 << n(); b++) {
                 int greater = Math.max(Integer.bitCount(a), Integer.bitCount(b));
-                if (greater < fewest && asOne(a, b)) {
+                if (greater < fewest && asOne(triedBy, a, b)) {
                     fewest = greater;
                 }
             }
@@ -485,13 +492,14 @@ final class PlainHall {
         if (n() == 0) {
             return err(NONE);
         }
+        int[] triedBy = triedBy();
         int fewest = fewestOfGreater();
         int union = 1 << 20;
         int apart = 0;
         for (int a = 0; a < 1 << n(); a++) {
             for (int b = a + 1; b < 1 << n(); b++) {
                 int greater = Math.max(Integer.bitCount(a), Integer.bitCount(b));
-                if (greater != fewest || !asOne(a, b)) {
+                if (greater != fewest || !asOne(triedBy, a, b)) {
                     continue;
                 }
                 boolean more = Integer.bitCount(a ^ b) > Integer.bitCount(apart);

@@ -20,6 +20,8 @@ public final class RandomRunsTest {
     private final int broken;
     private final boolean honest;
     private final boolean filling;
+    /** Arguments stand at an edge, or next to it on the other side; the tape is read only when it is nearly full. */
+    private final boolean edgy;
     private int wrong;
 
     private RandomRunsTest(long seed) {
@@ -29,6 +31,7 @@ public final class RandomRunsTest {
         broken = random.nextInt(1 << 12) & random.nextInt(1 << 12);
         honest = random.nextInt(4) != 0;
         filling = random.nextInt(6) == 0;
+        edgy = seed % 4 == 0;
     }
 
     public static void main(String[] args) throws ReflectiveOperationException {
@@ -82,6 +85,9 @@ public final class RandomRunsTest {
         if (!pending.isEmpty() && random.nextInt(wild) != 0) {
             return "feed";
         }
+        if (edgy && !plain.s.tape.isEmpty() && random.nextInt(6) != 0) {
+            return random.nextInt(5) == 0 ? "text" : "feed";
+        }
         if (!plain.s.tape.isEmpty() && random.nextInt(wild) != 0) {
             return "text";
         }
@@ -89,22 +95,26 @@ public final class RandomRunsTest {
             return "feed";
         }
         if (roll < 40) {
-            return random.nextInt(4) == 0 ? "says" : "put";
+            return new String[] {"says", "sheet", "move", "put", "put", "put", "put"}[random.nextInt(7)];
         }
         if (filling && roll < 60) {
             return "tell";
         }
         String name = open.get(random.nextInt(open.size())).getName();
         boolean slow = name.equals("known") || name.equals("pair") || name.equals("more") || name.equals("without");
-        boolean refused = machines > (name.equals("more") ? 5 : 7) && slow || machines >= 12 && name.equals("mend") && i % 8 != 0;
+        boolean refused = slow && machines > (name.equals("more") ? 7 : 9) && i % 64 != 0 || machines >= 12 && name.equals("mend") && i % 8 != 0;
         boolean rare = name.equals("mended") || name.equals("unsay") || name.equals("restore") || name.equals("most");
-        return refused || name.equals("machine") && machines >= size && random.nextInt(10) != 0 || rare && random.nextInt(3) != 0 || filling && name.equals("check") && random.nextInt(6) != 0 ? "many" : name;
+        return refused || name.equals("machine") && machines >= size && random.nextInt(3) != 0 || rare && random.nextInt(3) != 0 || filling && name.equals("check") && random.nextInt(6) != 0 ? "many" : name;
     }
 
     private int any(int least, int greatest) {
         if (random.nextInt(wild) == 0) {
             int[] odd = {-1, least - 1, greatest + 1, Integer.MIN_VALUE, Integer.MAX_VALUE, random.nextInt(), -2, 0};
             return odd[random.nextInt(odd.length)];
+        }
+        if (edgy && random.nextInt(3) == 0) {
+            int[] edges = {least, least, greatest, greatest, least - 1, greatest + 1};
+            return edges[random.nextInt(edges.length)];
         }
         return least + random.nextInt(Math.max(1, greatest - least + 1));
     }
@@ -120,7 +130,7 @@ public final class RandomRunsTest {
     private Object[] arguments(Method m) {
         switch (m.getName()) {
             case "machine":
-                return new Object[] {any(0, 5), random.nextInt(3) == 0 ? any(1, 12) : any(1, 99), any(1, 9)};
+                return new Object[] {any(0, 5), random.nextInt(3) == 0 ? Math.max(1, plain.n()) : any(1, 99), any(1, 9)};
             case "machineIs":
                 return new Object[] {machine(), any(0, 5)};
             case "as":
@@ -164,7 +174,7 @@ public final class RandomRunsTest {
                 int place = random.nextBoolean() ? any(0, 3) : any(0, 23);
                 return new Object[] {sheet, place, place % 2 == 0 ? pairOrAny() : random.nextInt(3) - 1};
             case "move":
-                return new Object[] {sheet(), any(0, 8), sheet(), any(0, 8), any(0, 12)};
+                return moving();
             case "says":
                 return new Object[] {sheet()};
             case "tell":
@@ -182,6 +192,12 @@ public final class RandomRunsTest {
     private Object[] saying() {
         int from = machine();
         int to = machine();
+        List<int[]> ties = plain.ties();
+        if (!ties.isEmpty() && random.nextBoolean()) {
+            int[] tie = ties.get(random.nextInt(ties.size()));
+            from = tie[0];
+            to = tie[1];
+        }
         boolean whole = random.nextBoolean();
         if (honest && plain.is(from) && plain.is(to)) {
             int kind = plain.s.machines.get(from).kind();
@@ -198,6 +214,20 @@ public final class RandomRunsTest {
     private int sheet() {
         int sheet = any(0, 3);
         return sheet >= 0 && sheet < 4 && plain.sheets[sheet] == null && random.nextInt(wild) != 0 ? random.nextInt(4) : sheet;
+    }
+
+    /** Numbers that often stand where they are looked for, to the last one. */
+    private Object[] moving() {
+        int from = sheet();
+        int to = sheet();
+        int i = any(0, 8);
+        int j = any(0, 8);
+        int n = any(0, 12);
+        boolean both = from >= 0 && from < 4 && to >= 0 && to < 4 && plain.sheets[from] != null && plain.sheets[to] != null;
+        if (both && random.nextBoolean()) {
+            n = Math.min(plain.sheets[from].length - i, plain.sheets[to].length - j) + (random.nextInt(3) == 0 ? 1 : 0);
+        }
+        return new Object[] {from, i, to, j, n};
     }
 
     private int pairOrAny() {

@@ -12,7 +12,7 @@ public final class RoomTest {
         long before = BEAN.getCurrentThreadAllocatedBytes();
         PoliteHall x = largest();
         long made = BEAN.getCurrentThreadAllocatedBytes();
-        for (int i = 0; i < 30; i++) {
+        for (int i = 0; i < 16; i++) {
             dearCalls(x, i);
         }
         long after = BEAN.getCurrentThreadAllocatedBytes();
