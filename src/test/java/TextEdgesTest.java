@@ -9,6 +9,7 @@ public final class TextEdgesTest {
         eightyBytesAreAText();
         emptyThen();
         howManyItems();
+        withWhichNoTextGoesOn();
         numbersOfDigits();
         wordsAsFarAsTheyGo();
         anyOtherByte();
@@ -115,6 +116,39 @@ public final class TextEdgesTest {
         fault(x, ";most1", 0);
         fault(x, "most1;", 6);
         fault(x, "most1 most1", 6);
+    }
+
+    /** Each word and number of each ITEM in turn gives way to something else; and something more stands behind the last. */
+    private static void withWhichNoTextGoesOn() {
+        DUE.sentence("FAULT: the place of the first byte of the first word, number or other byte with which no TEXT goes on");
+        String[][] items = {{"make", "any", "1", "1"}, {"tie", "0", "1", "1"}, {"say", "0", "1", "broken"}, {"most", "1"}};
+        String[] others = {"x", "7777", "-", ";", "(", "A", "makes", "wholly", "" + (char) 200, "" + (char) 0};
+        for (String[] item : items) {
+            for (int place = 0; place <= item.length; place++) {
+                for (String other : others) {
+                    if (place < item.length || !other.equals(";")) {
+                        noTextGoesOn(item, place, other, "");
+                        noTextGoesOn(item, place, other, "most 3 ; ");
+                    }
+                }
+            }
+        }
+    }
+
+    private static void noTextGoesOn(String[] item, int place, String other, String ahead) {
+        StringBuilder text = new StringBuilder(ahead);
+        int due = 0;
+        for (int i = 0; i <= item.length; i++) {
+            due = i == place ? text.length() : due;
+            if (i == place || i < item.length) {
+                text.append(i == place ? other : item[i]).append(' ');
+            }
+        }
+        PoliteHall x = Due.hallOf(2, 0);
+        x.tie(0, 1, 1);
+        fault(x, text.toString(), due);
+        DUE.is("nothing was done", x.count(0) * 100 + x.count(1) * 10 + x.count(2), 210);
+        DUE.is("MOST", x.most(12), 12);
     }
 
     private static void numbersOfDigits() {
