@@ -61,6 +61,17 @@ final class Due {
         return hall;
     }
 
+    /** Each of n machines can try so many behind it, round about. */
+    static PoliteHall ring(int n, int each) {
+        PoliteHall hall = hallOf(n, 0);
+        for (int i = 0; i < n; i++) {
+            for (int k = 1; k <= each; k++) {
+                hall.tie(i, (i + k) % n, 1);
+            }
+        }
+        return hall;
+    }
+
     /** Bytes come eight by eight, the lowest first. */
     static int feed(PoliteHall hall, String bytes) {
         int answer = hall.count(4);

@@ -89,19 +89,9 @@ public final class RefusalsTest {
         return x;
     }
 
-    private static PoliteHall ring(int n, int each) {
-        PoliteHall x = Due.hallOf(n, 0);
-        for (int i = 0; i < n; i++) {
-            for (int k = 1; k <= each; k++) {
-                x.tie(i, (i + k) % n, 1);
-            }
-        }
-        return x;
-    }
-
     /** Of 8 machines; one more than the ties of which rounds() may be asked. */
     private static PoliteHall ties25() {
-        PoliteHall x = ring(8, 3);
+        PoliteHall x = Due.ring(8, 3);
         x.tie(0, 4, 1);
         return x;
     }
@@ -268,8 +258,8 @@ public final class RefusalsTest {
         refused("pair: NONE: KNOWN is 12", RefusalsTest::empty, x -> x.pair(1), Due.NONE);
         refused("more: NONE: all are there", RefusalsTest::empty, PoliteHall::more, Due.NONE);
         refused("more: NONE: all are there", () -> Due.hallOf(1, 0), PoliteHall::more, Due.NONE);
-        refused("more: NONE: all are there", () -> ring(2, 1), PoliteHall::more, Due.NONE);
-        refused("more: NONE: all are there", () -> ring(5, 4), PoliteHall::more, Due.NONE);
+        refused("more: NONE: all are there", () -> Due.ring(2, 1), PoliteHall::more, Due.NONE);
+        refused("more: NONE: all are there", () -> Due.ring(5, 4), PoliteHall::more, Due.NONE);
         refused("without: BEYOND, of none", RefusalsTest::empty, x -> x.without(0, 0), Due.BEYOND);
     }
 
@@ -281,7 +271,7 @@ public final class RefusalsTest {
         refused("rounds: FULL: more than 8 MACHINES", () -> Due.hallOf(9, 0), PoliteHall::rounds, Due.FULL);
         refused("rounds: FULL: more than 24 TIES", RefusalsTest::ties25, PoliteHall::rounds, Due.FULL);
         refused("rounds: NONE: 2 don't do", () -> Due.hallOf(1, 0), PoliteHall::rounds, Due.NONE);
-        refused("rounds: NONE: 2 don't do", () -> ring(8, 3), PoliteHall::rounds, Due.NONE);
+        refused("rounds: NONE: 2 don't do", () -> Due.ring(8, 3), PoliteHall::rounds, Due.NONE);
         refused("likely: NONE", RefusalsTest::noneFits, PoliteHall::likely, Due.NONE);
         for (int m : new int[] {-1, 4, 12, MIN, MAX}) {
             beyond("chance", x -> x.chance(m, 0));

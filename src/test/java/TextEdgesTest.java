@@ -420,20 +420,19 @@ public final class TextEdgesTest {
 
     private static void elseNothing() {
         DUE.sentence("All is done, one ITEM behind the other, if all is right; else nothing.");
+        PoliteHall x = somethingOfAll();
+        fault(x, "make mute 9 9;tie 2 0 9;tie 0 1 9;say 2 0 broken;most 1;x", 56);
+        DUE.same("all", Seen.all(x), Seen.all(somethingOfAll()));
+    }
+
+    private static PoliteHall somethingOfAll() {
         PoliteHall x = Due.hallOf(2, 0);
         x.tie(0, 1, 7);
         x.say(0, 1, true);
         x.tell(5);
         x.image();
         x.voice(0, 0, 0);
-        PoliteHall twin = Due.hallOf(2, 0);
-        twin.tie(0, 1, 7);
-        twin.say(0, 1, true);
-        twin.tell(5);
-        twin.image();
-        twin.voice(0, 0, 0);
-        fault(x, "make mute 9 9;tie 2 0 9;tie 0 1 9;say 2 0 broken;most 1;x", 56);
-        DUE.same("all", Seen.all(x), Seen.all(twin));
+        return x;
     }
 
     private static void noError() {

@@ -102,7 +102,7 @@ public final class TieEdgesTest {
         pair(x, 0, 2, 0);
         x.tie(0, 1, 1);
         pair(x, 0, 4, 0);
-        PoliteHall y = ring(4, 1);
+        PoliteHall y = Due.ring(4, 1);
         pair(y, 1, 3, 1);
         y.tie(3, 1, 1);
         // {0, 1} is no more as one with {0}; {0, 2} never was with any; {1, 2} and {1} are, for 1 alone tries 2.
@@ -135,25 +135,15 @@ public final class TieEdgesTest {
 
     private static void othersAreInBoth() {
         DUE.sentence("and both have all others of the union");
-        pair(ring(5, 1), 1, 3, 1);
-        pair(ring(5, 2), 2, 7, 3);
-        pair(ring(12, 4), 4, 31, 15);
+        pair(Due.ring(5, 1), 1, 3, 1);
+        pair(Due.ring(5, 2), 2, 7, 3);
+        pair(Due.ring(12, 4), 4, 31, 15);
         PoliteHall x = Due.tieAll(Due.hallOf(7, 0));
         for (int i = 3; i < 7; i++) {
             x.tie(i, 0, 0);
         }
         // Only 1 and 2 try 0: all three of the union are in the first, 1 and 2 in both.
         pair(x, 2, 7, 6);
-    }
-
-    private static PoliteHall ring(int n, int each) {
-        PoliteHall x = Due.hallOf(n, 0);
-        for (int i = 0; i < n; i++) {
-            for (int k = 1; k <= each; k++) {
-                x.tie(i, (i + k) % n, 1);
-            }
-        }
-        return x;
     }
 
     private static void allAreThere() {
@@ -212,7 +202,7 @@ public final class TieEdgesTest {
 
     private static void withoutATie() {
         DUE.sentence("WITHOUT a TIE: KNOWN then. STATE: there is none such.");
-        PoliteHall x = ring(12, 5);
+        PoliteHall x = Due.ring(12, 5);
         DUE.is("known()", x.known(), 5);
         DUE.is("without(0, 1)", x.without(0, 1), 4);
         DUE.is("without(11, 4)", x.without(11, 4), 4);

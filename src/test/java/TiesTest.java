@@ -85,13 +85,7 @@ public final class TiesTest {
     private static void rings() {
         for (int n = 3; n <= 12; n++) {
             for (int d = 1; d < n; d++) {
-                PoliteHall x = Due.hallOf(n, 0);
-                for (int i = 0; i < n; i++) {
-                    for (int k = 1; k <= d; k++) {
-                        x.tie(i, (i + k) % n, 1);
-                    }
-                }
-                DUE.is("ring " + n + " by " + d, x.known(), Math.min(d, (n - 1) / 2));
+                DUE.is("ring " + n + " by " + d, Due.ring(n, d).known(), Math.min(d, (n - 1) / 2));
             }
         }
     }

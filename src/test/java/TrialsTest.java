@@ -107,16 +107,9 @@ public final class TrialsTest {
     }
 
     private static void roundsRefused() {
-        PoliteHall x = Due.hallOf(8, 0);
+        PoliteHall x = Due.ring(8, 3);
         x.most(0);
-        int ties = 0;
-        for (int i = 0; i < 8; i++) {
-            for (int k = 1; k <= 3; k++) {
-                x.tie(i, (i + k) % 8, 1);
-                ties++;
-            }
-        }
-        DUE.is("ties", x.count(1), ties);
+        DUE.is("ties", x.count(1), 24);
         DUE.is("rounds of 8 machines and 24 ties", x.rounds(), 0);
         x.tie(0, 4, 1);
         DUE.is("rounds of 25 ties", x.rounds(), Due.FULL);
