@@ -6,6 +6,7 @@ final class Due {
     static final int FULL = -1000004;
     static final int KIND = -1000005;
     static final int PARTED = -1000006;
+    private static final int TOLD_AT_MOST = 1000;
 
     private int asked;
     private int wrong;
@@ -17,14 +18,21 @@ final class Due {
     }
 
     void is(String call, long got, long due) {
-        same(call, Long.toString(got), Long.toString(due));
+        // Millions of answers come this way: only one that is wrong is worth a text.
+        if (got == due) {
+            asked++;
+        } else {
+            same(call, Long.toString(got), Long.toString(due));
+        }
     }
 
     void same(String call, String got, String due) {
         asked++;
         if (!got.equals(due)) {
             wrong++;
-            System.out.println(sentence + call + " answered " + got + ", due is " + due);
+            if (wrong <= TOLD_AT_MOST) {
+                System.out.println(sentence + call + " answered " + got + ", due is " + due);
+            }
         }
     }
 

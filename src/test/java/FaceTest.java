@@ -23,6 +23,8 @@ public final class FaceTest {
         face();
         members();
         words();
+        library();
+        lengths();
         DUE.end();
     }
 
@@ -73,9 +75,18 @@ public final class FaceTest {
         }
     }
 
+    private static String source() throws IOException {
+        return Files.readString(Path.of("src/main/java/PoliteHall.java"));
+    }
+
+    /** The source without comments and texts. */
+    private static String bare() throws IOException {
+        return source().replaceAll("(?s)/\\*.*?\\*/", "").replaceAll("//[^\n]*", "").replaceAll("\"[^\"\n]*\"", "\"\"");
+    }
+
     private static void words() throws IOException {
-        String source = Files.readString(Path.of("src/main/java/PoliteHall.java"));
-        String bare = source.replaceAll("(?s)/\\*.*?\\*/", "").replaceAll("//[^\n]*", "").replaceAll("\"[^\"\n]*\"", "\"\"");
+        String source = source();
+        String bare = bare();
         String[] ruledOut = {"\\bthrows?\\b", "\\btry\\b", "\\bcatch\\b", "\\bsynchronized\\b", "\\bassert\\b", "->", "::", "\\bimport\\b",
             "\\bpackage\\b", "\\bprotected\\b", "\\bhashCode\\b", "\\btoString\\b", "Exact\\b", "\\bstatic\\s*\\{", "\\bObject\\b", "\\bnative\\b",
             "\\bSystem\\.(?!arraycopy)", "\\bThread\\b", "\\bRandom\\b", "\\bvar\\b"};
@@ -88,5 +99,36 @@ public final class FaceTest {
                 DUE.holds("a sign beyond 126", false);
             }
         }
+    }
+
+    private static void library() throws IOException {
+        TreeSet<String> own = new TreeSet<>();
+        for (Class<?> c : PoliteHall.class.getDeclaredClasses()) {
+            own.add(c.getSimpleName());
+        }
+        TreeSet<String> may = new TreeSet<>(Arrays.asList("Integer.bitCount", "Long.bitCount", "Math.max", "Math.min", "System.arraycopy"));
+        Matcher m = Pattern.compile("\\b([A-Z]\\w*)\\.(\\w+)\\(").matcher(bare());
+        while (m.find()) {
+            DUE.holds("the library has no " + m.group(), own.contains(m.group(1)) || may.contains(m.group(1) + "." + m.group(2)));
+        }
+    }
+
+    /** A method ends at the first brace that stands as far in as it begins. */
+    private static void lengths() throws IOException {
+        String[] lines = source().split("\n");
+        Pattern head = Pattern.compile("( +)(public|private|static|boolean|int|long|void|String|[A-Z]\\w*)\\b[^=;]*\\) \\{");
+        int methods = 0;
+        for (int i = 0; i < lines.length; i++) {
+            Matcher m = head.matcher(lines[i]);
+            if (m.matches()) {
+                int end = i;
+                while (end < lines.length - 1 && !lines[end].equals(m.group(1) + "}")) {
+                    end++;
+                }
+                methods++;
+                DUE.holds("some sixty lines: " + lines[i].trim(), end - i < 60);
+            }
+        }
+        DUE.holds("methods were seen", methods > 100);
     }
 }
