@@ -1,4 +1,7 @@
-/** Promises 12 to 28 on every small hall there is, not on some: each answer must be that of PlainHall. */
+/**
+ * Promises 12 to 28 on small halls, one after the other and not by chance: each answer must be that of PlainHall. All
+ * ties, kinds and sayings come (a saying by each tie at most); prices and chances don't change, and a hall has one MOST.
+ */
 public final class SmallHallsTest {
     private static final Due DUE = new Due();
     private static final int KINDS = 6;
